@@ -36,6 +36,8 @@ public final class NamesTest {
 
     private static void frees() {
         NotWorn x = new NotWorn();
+        Due.is("frees all", x.frees(0), 125);
+        Due.is("frees the first", x.frees(1), 0);
         x.person(0, 0, 0);
         x.person(0, 1, 0);
         x.person(0, 1, 0);

@@ -6,6 +6,7 @@ public final class RowsTest {
         checkGoesByTheImage();
         checkNearTheLastYear();
         keepAndBack();
+        thoseBehindTheImageAreNoMore();
         imageLeavesSheetsSlotsRowsAndTape();
         imageKeepsTexts();
         count();
@@ -149,6 +150,25 @@ public final class RowsTest {
             state[29 + i] = x.dealing(i);
         }
         return state;
+    }
+
+    private static void thoseBehindTheImageAreNoMore() {
+        NotWorn x = new NotWorn();
+        x.person(0, 3, 0);
+        x.child(4, 4);
+        x.keep();
+        x.person(0, 3, -198);
+        x.child(5, 5);
+        x.back();
+        Due.is("back: alive", x.count(1), 1);
+        Due.is("back: yields", x.yields(0), 0);
+        Due.is("back: one dealt", x.dealing(0), 1);
+        x.set(0, 3, 0);
+        x.lifetime(0);
+        Due.is("back: frees", x.frees(0), 125);
+        Due.is("back: told", x.told(1, 0), Due.BAD);
+        Due.is("back: nobody dies", x.years(1), 0);
+        Due.is("back: nobody draws", x.count(8), 1);
     }
 
     private static void imageLeavesSheetsSlotsRowsAndTape() {

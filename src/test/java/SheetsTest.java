@@ -26,9 +26,11 @@ public final class SheetsTest {
         Due.is("sheet sort 2", x.sheet(0, 2, 1), Due.BAD);
         Due.is("sheet BAD ahead of SIZE", x.sheet(4, 0, -1), Due.BAD);
         Due.is("sheet still there", x.mark(0, 23, 5), 1);
+        x.mark(0, 0, 5);
         Due.is("sheet anew", x.sheet(0, 0, 24), 24);
         x.lay(0, 2, 0);
         Due.is("sheet all 0", x.item(0, 23), 0);
+        Due.is("sheet all 0 from the first", x.item(0, 0), 0);
         Due.is("sheet missing", x.sheet(0, -1, 99), 0);
         Due.is("sheet missing, n below 0", x.sheet(0, -1, -7), 0);
         Due.is("sheet is missing", x.mark(0, 0, 0), Due.NOTHING);
@@ -84,6 +86,9 @@ public final class SheetsTest {
         x.sheet(1, 0, 24);
         x.mark(1, 0, 10);
         Due.is("pour a longer one", x.pour(1), 2);
+        x.mark(1, 0, 11);
+        Due.is("pour the first", x.pour(1), 1);
+        Due.is("pour: the first", x.told(0, 1), 11);
         Due.is("pour missing", x.pour(2), Due.NOTHING);
         Due.is("pour 4", x.pour(4), Due.BAD);
         Due.is("pour -1", x.pour(-1), Due.BAD);

@@ -152,6 +152,11 @@ public final class TextsTest {
         fault("(near d)", 0);
         fault("fine near", 5);
         fault("fine 1 fine", 7);
+        fault("nearz 1", 0);
+        fault("zfine 1", 0);
+        fault("fear 1", 0);
+        fault("lies 1", 0);
+        fault("mine 1", 0);
     }
 
     private static void fault(String tape, int place) {

@@ -2,7 +2,9 @@
 public final class YearsTest {
     public static void main(String[] args) {
         years();
-        yearsDrawOnlyForTheLiving();
+        for (int seed = 0; seed < 40; seed++) {
+            yearsDrawOnlyForTheLiving(seed);
+        }
         yearsByLaw();
         yearsUpToTheLast();
         behind();
@@ -30,9 +32,9 @@ public final class YearsTest {
         Due.is("years: none below 2", x.years(1), 0);
     }
 
-    private static void yearsDrawOnlyForTheLiving() {
+    private static void yearsDrawOnlyForTheLiving(int seed) {
         NotWorn x = new NotWorn();
-        x.seed(5);
+        x.seed(seed);
         int[] births = {0, -60, -90, -198};
         int[] deaths = new int[4];
         for (int i = 0; i < 4; i++) {
@@ -41,9 +43,9 @@ public final class YearsTest {
         }
         x.set(1, 3, 0);
         deaths[1] = 0;
-        int z = 5;
+        int z = seed;
         int dead = 0;
-        for (int year = 0; year < 12; year++) {
+        for (int year = 0; year < 60; year++) {
             for (int i = 0; i < 4; i++) {
                 if (deaths[i] != Due.NONE) {
                     continue;
@@ -55,7 +57,7 @@ public final class YearsTest {
                 }
             }
         }
-        Due.is("years: deaths", x.years(12), dead);
+        Due.is("years: deaths", x.years(60), dead);
         for (int i = 0; i < 4; i++) {
             Due.is("years: death of " + i, x.told(i, 3), deaths[i]);
         }
