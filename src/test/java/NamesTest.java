@@ -13,6 +13,7 @@ public final class NamesTest {
         christen();
         christenIntoLittleRoom();
         yields();
+        fullValley();
         Due.end();
     }
 
@@ -212,6 +213,28 @@ public final class NamesTest {
         Due.is("christen: the eighth", x.told(8, 1), 0);
         Due.is("christen: the ninth", x.told(9, 1), 1);
         Due.is("christen: all are no more", x.count(2), 0);
+    }
+
+    /** Ten of PEOPLE and six CHILDREN, so that every row is used to its end. */
+    private static void fullValley() {
+        NotWorn x = new NotWorn();
+        for (int i = 0; i < 10; i++) {
+            x.person(0, 25 * (i % 5), 0);
+        }
+        for (int i = 0; i < 6; i++) {
+            x.child(0, 1 + i);
+        }
+        Due.is("full: alive", x.count(1), 10);
+        Due.is("full: frees", x.frees(0), 120);
+        Due.is("full: yields", x.yields(9), 0b10000);
+        shows(x, 6, 0, 1, 2, 3, 4, 5, 6);
+        Due.text(x, "near f");
+        Due.is("full: frees none", x.frees(0), 0);
+        Due.is("full: no least", x.frees(1), Due.NONE);
+        Due.is("full: ends", x.ends(), 0);
+        shows(x, 0, 0, Due.NONE, Due.NONE, Due.NONE, Due.NONE, Due.NONE, Due.NONE);
+        Due.is("full: years", x.years(2), 0);
+        Due.is("full: christen", x.christen(), 10);
     }
 
     private static void yields() {
