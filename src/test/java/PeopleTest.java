@@ -17,6 +17,7 @@ public final class PeopleTest {
         Due.end();
     }
 
+    /** "As told; nobody." */
     private static void newObject() {
         NotWorn x = new NotWorn();
         int[] counts = {0, 0, 0, 0, 80, 0, 0, 0, 1};
@@ -28,6 +29,8 @@ public final class PeopleTest {
         Due.is("new: fine", x.fine(), 0);
         Due.is("new: ends", x.ends(), Due.NONE);
         Due.is("new: back", x.back(), Due.NO);
+        Due.is("new: no child", x.dealing(2), Due.BAD);
+        Due.is("new: no text", x.textTold(0, 0), Due.BAD);
         for (int key = 0; key < 3; key++) {
             Due.is("new: why", x.why(key), Due.NONE);
         }
@@ -36,6 +39,7 @@ public final class PeopleTest {
         }
         for (int slot = 0; slot < 5; slot++) {
             Due.is("new: ask", x.ask(slot, 0), Due.NOTHING);
+            Due.is("new: rest", x.rest(slot, 0), Due.NOTHING);
         }
     }
 
