@@ -2,8 +2,11 @@ import java.util.Random;
 
 /** Runs by lot, the same calls on the program and on the model: the answers are to be the same, and none is thrown. */
 public final class ModelTest {
-    private static final int RUNS = 70;
+    private static final int RUNS = 280;
+    /** Nothing is promised about an object behind so many calls. */
     private static final int CALLS = 512;
+    /** The most that one step can need: 61 numbers and two checks. */
+    private static final int STEP_MOST = 63;
     private static final int TAPES = 20000;
     private static final int[] ODD = {Integer.MIN_VALUE, Integer.MAX_VALUE, -1, 0, 1, 2, 3, 4, 5, 6, 9, 10, 11, 23, 24,
         25, 30, 31, 60, 99, 100, 101, 124, 125, 200, 201, 9999, 10000, 99999, 100000, -999, -1000, -99999, -100000,
@@ -13,6 +16,7 @@ public final class ModelTest {
     private NotWorn x;
     private Model m;
     private String call;
+    private int used;
 
     private ModelTest(long seed) {
         lot = new Random(seed);
@@ -34,12 +38,10 @@ public final class ModelTest {
                 x.years(100);
                 m.years(100);
             }
-            if (run % 2 == 0) {
-                compare(run);
-            }
+            used = 100;
         }
-        for (int i = 0; i < CALLS && !compare(run); i++) {
-            continue;
+        while (used + STEP_MOST <= CALLS && !compare(run)) {
+            used++;
         }
     }
 
@@ -259,6 +261,7 @@ public final class ModelTest {
     private long wholeText() {
         String tape = below(4) == 0 ? spoilt(law()) : law();
         tape = tape.substring(0, Math.min(96, tape.length()));
+        used += 2 + (tape.length() + 11) / 12;
         x.trim(0);
         m.trim(0);
         Due.tape(x, tape);
@@ -335,6 +338,7 @@ public final class ModelTest {
         Model.State then = m.image == null ? m.now.twin() : m.image.twin();
         int wrong = below(3) == 0 ? below(2 * n) : -1;
         int many = below(3) == 0 ? below(2 * n + 2) : 2 * n;
+        used += 1 + many;
         x.check(0);
         m.check(0);
         int[] due = new int[2 * n + 2];
