@@ -120,11 +120,14 @@ public final class FaceTest {
         while (library.find()) {
             Due.holds("library: " + library.group(), allowed.contains(library.group()));
         }
-        methodsAreShort(whole.split("\n"));
+        methodsKeepSmall(whole.split("\n"));
     }
 
-    /** Members stand at one or two steps of indentation, so a method ends at the first brace under its head. */
-    private static void methodsAreShort(String[] lines) {
+    /**
+     * Members stand at one or two steps of indentation, so a method ends at the first brace under its head. All calls
+     * of a run live in one room, so constructors alone make objects.
+     */
+    private static void methodsKeepSmall(String[] lines) {
         Pattern head = Pattern.compile("^( {4}| {8})[A-Za-z][^=;]*\\) \\{$");
         for (int i = 0; i < lines.length; i++) {
             Matcher matcher = head.matcher(lines[i]);
@@ -136,6 +139,12 @@ public final class FaceTest {
                 end++;
             }
             Due.holds("sixty lines at most: " + lines[i].trim(), end - i <= 60);
+            boolean makes = String.join(" ", List.of(lines).subList(i, end)).matches(".*\\bnew .*");
+            Due.holds("makes no object: " + lines[i].trim(), !makes || isConstructor(lines[i]));
         }
+    }
+
+    private static boolean isConstructor(String head) {
+        return head.trim().matches("(public )?[A-Z]\\w*\\(.*");
     }
 }
